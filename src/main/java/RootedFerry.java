@@ -43,8 +43,8 @@ public final class RootedFerry {
     }
 
     public boolean account(long user, long password) {
-        long userName = Name.withoutDots(Name.ofWord(user));
-        long passwordName = Name.withoutDots(Name.ofWord(password));
+        long userName = Name.withoutDots(Name.partOfWord(user));
+        long passwordName = Name.withoutDots(Name.partOfWord(password));
         if (connected || accounts.size() >= MOST_ACCOUNTS) {
             return false;
         }
@@ -282,9 +282,9 @@ public final class RootedFerry {
             case RETR:
                 return retrieve();
             case STOR:
-                return receive(false);
+                return takeFile(false);
             case APPE:
-                return receive(true);
+                return takeFile(true);
             default:
                 // NLST
                 return listNames();
@@ -435,7 +435,7 @@ public final class RootedFerry {
         return 150;
     }
 
-    private int receive(boolean append) {
+    private int takeFile(boolean append) {
         Node file = path.end;
         if (file == null ? path.placeDirectory == null : file.directory) {
             return 553;
@@ -446,8 +446,7 @@ public final class RootedFerry {
         if (!dataConnects()) {
             return 425;
         }
-        cargo.startTaking(file, path.placeDirectory, path.placeName);
-        cargo.append = append;
+        cargo.startTaking(file, path.placeDirectory, path.placeName, append);
         return 150;
     }
 
@@ -527,8 +526,8 @@ public final class RootedFerry {
         static final long ONE_DOT = (long) '.' << 40;
         static final long TWO_DOTS = (long) '.' << 40 | (long) '.' << 32;
 
-        /** The name, '.' or '..' in the bytes of a word, the lowest first, up to a byte 0; NO for all else. */
-        static long ofWord(long word) {
+        /** The name, '.' or '..' that the bytes of a word are, the lowest first, up to a byte 0; NO for all else. */
+        static long partOfWord(long word) {
             long name = NO;
             for (int i = 0; i < 8; i++) {
                 int c = (int) (word >>> 8 * i & 255);
@@ -543,7 +542,7 @@ public final class RootedFerry {
             return name;
         }
 
-        static long ofLine(Line line, int from, int to) {
+        static long partOfLine(Line line, int from, int to) {
             if (to - from > MOST) {
                 return NO;
             }
@@ -551,15 +550,15 @@ public final class RootedFerry {
             for (int i = from; i < to; i++) {
                 word |= (long) line.at(i) << 8 * (i - from);
             }
-            return ofWord(word);
+            return partOfWord(word);
         }
 
-        static boolean isDots(long name) {
-            return name == ONE_DOT || name == TWO_DOTS;
+        static boolean isDots(long part) {
+            return part == ONE_DOT || part == TWO_DOTS;
         }
 
-        static long withoutDots(long name) {
-            return isDots(name) ? NO : name;
+        static long withoutDots(long part) {
+            return isDots(part) ? NO : part;
         }
 
         /** Character i, 0 behind the name. */
@@ -660,7 +659,7 @@ public final class RootedFerry {
         }
 
         long argumentName() {
-            return Name.withoutDots(Name.ofLine(this, argumentStart(), length));
+            return Name.withoutDots(Name.partOfLine(this, argumentStart(), length));
         }
 
         int argumentNumber() {
@@ -745,14 +744,14 @@ public final class RootedFerry {
             }
             for (int i = from; i < to; i++) {
                 if (line.at(i) == '/') {
-                    if (!addPart(Name.ofLine(line, from, i))) {
+                    if (!addPart(Name.partOfLine(line, from, i))) {
                         return false;
                     }
                     from = i + 1;
                 }
             }
             slashBehind = count > 0 && from == to;
-            return from == to || addPart(Name.ofLine(line, from, to));
+            return from == to || addPart(Name.partOfLine(line, from, to));
         }
 
         void walk(Tree tree, Node root, Node current) {
@@ -826,7 +825,6 @@ public final class RootedFerry {
                     node.parent = parent;
                     node.name = name;
                     node.directory = directory;
-                    node.size = 0;
                     return node;
                 }
             }
@@ -958,7 +956,7 @@ public final class RootedFerry {
         }
     }
 
-    /** The transfer and its data. */
+    /** The transfer and its data; it is clear whenever there is none. */
     private static final class Cargo {
         static final int NO = 0;
         static final int GIVING = 1;
@@ -989,7 +987,6 @@ public final class RootedFerry {
         }
 
         void giveFile(Node given, int from, boolean ascii) {
-            clear();
             kind = GIVING;
             for (int i = from; i >= 0 && i < given.size && i < given.content.length; i++) {
                 if (ascii && given.content[i] == 10) {
@@ -1000,7 +997,6 @@ public final class RootedFerry {
         }
 
         void giveNames(Tree tree, Node given) {
-            clear();
             kind = GIVING;
             long next = tree.nextName(given, Name.NO);
             for (int count = 0; count < Tree.MOST_NODES && next != Name.NO; count++) {
@@ -1013,12 +1009,12 @@ public final class RootedFerry {
             }
         }
 
-        void startTaking(Node toFile, Node toDirectory, long underName) {
-            clear();
+        void startTaking(Node toFile, Node toDirectory, long underName, boolean behind) {
             kind = TAKING;
             file = toFile;
             directory = toDirectory;
             name = underName;
+            append = behind;
         }
 
         /** The next byte to be given; NONE behind the last one. */

@@ -280,6 +280,10 @@ public final class RootedFerryPromisesTest {
         dueLine(ferry, "pwd", 257);
         dueLine(ferry, "mKd a", 257);
         dueLine(ferry, "zzzz", 500);
+        for (String line : BEHIND_LOGIN) {
+            String command = line.substring(0, (line + " ").indexOf(' '));
+            due(line + " in small letters", Checks.say(ferry, command.toLowerCase() + " //") != 500, true);
+        }
         dueLine(ferry, "cwd A", 501);
         Checks.logIn(ferry, "u", "p");
     }
@@ -804,6 +808,14 @@ public final class RootedFerryPromisesTest {
         dueLine(ferry, "CWD b", 250);
         Checks.fetch(ferry, "NLST", "inner\r\n");
         Checks.fetch(ferry, "NLST .", "inner\r\n");
+        dueLine(ferry, "SIZE /aa", 213);
+        Checks.fetch(ferry, "NLST", "inner\r\n");
+        dueLine(ferry, "NLST /aa/", 550);
+        Checks.fetch(ferry, "NLST", "inner\r\n");
+        Checks.joined(ferry);
+        dueLine(ferry, "CWD /b", 250);
+        dueLine(ferry, "NLST", 150);
+        Checks.dueGiven(ferry, "NLST", "inner\r\n");
         Checks.fetch(ferry, "nlst /", all.replace(" ", "\r\n"));
 
         ferry = at("promise 6, NLST");
@@ -843,6 +855,9 @@ public final class RootedFerryPromisesTest {
 
     private static void storingBytes() {
         Client ferry = at("promise 12, bytes");
+        Checks.send(ferry, "STOR f", "ab\n", 226);
+        Checks.send(ferry, "STOR f", "a\r", 226);
+        Checks.fetch(ferry, "RETR f", "a\r");
         Checks.send(ferry, "STOR f", "abcd", 226);
         Checks.joined(ferry);
         dueLine(ferry, "STOR f", 150);
