@@ -79,10 +79,14 @@ final class Checks {
         return text.toString();
     }
 
+    static boolean account(Client ferry, String user, String password) {
+        return ferry.account(word(user), word(password));
+    }
+
     /** A ferry with the account u, p, which is logged in. */
     static Client loggedIn() {
         Client ferry = new Client();
-        due("account(u, p)", ferry.account(word("u"), word("p")), true);
+        due("account(u, p)", account(ferry, "u", "p"), true);
         due("open()", ferry.open(), true);
         logIn(ferry, "u", "p");
         return ferry;

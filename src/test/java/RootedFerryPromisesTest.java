@@ -92,31 +92,27 @@ public final class RootedFerryPromisesTest {
 
     // Promise 2
 
-    private static boolean account(Client ferry, String user, String password) {
-        return ferry.account(Checks.word(user), Checks.word(password));
-    }
-
     private static void accounts() {
         Checks.topic("promise 2");
         Client ferry = new Client();
         String[] wrong = {"", ".", "..", "abcdefg", "abcdefgh", "A", "a b", "a/b", "_", "`", "{", "/", ":", ",", "\u00e9"};
         for (String name : wrong) {
-            due("account('" + name + "', p)", account(ferry, name, "p"), false);
-            due("account(u, '" + name + "')", account(ferry, "u", name), false);
+            due("account('" + name + "', p)", Checks.account(ferry, name, "p"), false);
+            due("account(u, '" + name + "')", Checks.account(ferry, "u", name), false);
         }
         due("nodes() behind the refused", ferry.nodes(), 0);
-        due("account(abcdef, a-.z09)", account(ferry, "abcdef", "a-.z09"), true);
-        due("account(abcdef, x)", account(ferry, "abcdef", "x"), false);
-        due("account(..., ....)", account(ferry, "...", "...."), true);
+        due("account(abcdef, a-.z09)", Checks.account(ferry, "abcdef", "a-.z09"), true);
+        due("account(abcdef, x)", Checks.account(ferry, "abcdef", "x"), false);
+        due("account(..., ....)", Checks.account(ferry, "...", "...."), true);
         due("the characters end at a byte 0", ferry.account(Checks.word("ab\0/XY"), Checks.word("p\0Q")), true);
         due("nodes()", ferry.nodes(), 3);
         due("open()", ferry.open(), true);
-        due("account(z, z) while open", account(ferry, "z", "z"), false);
+        due("account(z, z) while open", Checks.account(ferry, "z", "z"), false);
         Checks.logIn(ferry, "abcdef", "a-.z09");
         Checks.logIn(ferry, "...", "....");
         Checks.logIn(ferry, "ab", "p");
         dueLine(ferry, "QUIT", 221);
-        due("account(z, z) when closed again", account(ferry, "z", "z"), true);
+        due("account(z, z) when closed again", Checks.account(ferry, "z", "z"), true);
         due("nodes()", ferry.nodes(), 4);
     }
 
@@ -124,9 +120,9 @@ public final class RootedFerryPromisesTest {
         Checks.topic("promise 2");
         Client ferry = new Client();
         for (String user : new String[] {"a", "b", "c", "d"}) {
-            due("account(" + user + ")", account(ferry, user, "p"), true);
+            due("account(" + user + ")", Checks.account(ferry, user, "p"), true);
         }
-        due("a fifth account", account(ferry, "e", "p"), false);
+        due("a fifth account", Checks.account(ferry, "e", "p"), false);
         due("nodes()", ferry.nodes(), 4);
 
         ferry = Checks.loggedIn();
@@ -134,13 +130,13 @@ public final class RootedFerryPromisesTest {
             dueLine(ferry, "MKD " + i, 257);
         }
         dueLine(ferry, "QUIT", 221);
-        due("an account at 24 nodes", account(ferry, "v", "q"), false);
+        due("an account at 24 nodes", Checks.account(ferry, "v", "q"), false);
         due("nodes()", ferry.nodes(), 24);
         ferry.open();
         Checks.logIn(ferry, "u", "p");
         dueLine(ferry, "RMD 7", 250);
         dueLine(ferry, "QUIT", 221);
-        due("an account at 23 nodes", account(ferry, "v", "q"), true);
+        due("an account at 23 nodes", Checks.account(ferry, "v", "q"), true);
         due("nodes()", ferry.nodes(), 24);
         ferry.open();
         Checks.logIn(ferry, "v", "q");
@@ -379,7 +375,7 @@ public final class RootedFerryPromisesTest {
     private static void orderOfRefusals() {
         Checks.topic("promise 6, order");
         Client ferry = new Client();
-        account(ferry, "u", "p");
+        Checks.account(ferry, "u", "p");
         ferry.open();
         for (String line : BEHIND_LOGIN) {
             dueLine(ferry, line, 530);
@@ -445,8 +441,8 @@ public final class RootedFerryPromisesTest {
     private static void loggingIn() {
         Checks.topic("promise 6, USER and PASS");
         Client ferry = new Client();
-        account(ferry, "ann", "one");
-        account(ferry, "bob", "two");
+        Checks.account(ferry, "ann", "one");
+        Checks.account(ferry, "bob", "two");
         ferry.open();
         dueLine(ferry, "USER ann", 331);
         dueLine(ferry, "PASS two", 530);
@@ -1074,8 +1070,8 @@ public final class RootedFerryPromisesTest {
     private static void counting() {
         Checks.topic("promises 15 and 16");
         Client ferry = new Client();
-        account(ferry, "u", "p");
-        account(ferry, "v", "q");
+        Checks.account(ferry, "u", "p");
+        Checks.account(ferry, "v", "q");
         due("nodes()", ferry.nodes(), 2);
         ferry.open();
         Checks.logIn(ferry, "u", "p");
