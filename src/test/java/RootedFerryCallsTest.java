@@ -103,7 +103,9 @@ public final class RootedFerryCallsTest {
 
     private static void accountOfNoName() {
         Client ferry = newFerry("2: false when one of both is no name");
-        String[] wrong = {"", ".", "..", "abcdefg", "abcdefgh", "A", "aB", "a b", " a", "a ", "a/", "/", "a,", "\u0001", "\u00e1"};
+        String[] wrong = {
+            "", ".", "..", "abcdefg", "abcdefgh", "A", "aB", "a b", " a", "a ", "a/", "/", "a,", "\u0001", "\u00e1",
+        };
         for (String name : wrong) {
             due("user '" + name + "'", Checks.account(ferry, name, "p"), false);
             due("password '" + name + "'", Checks.account(ferry, "u", name), false);
@@ -378,9 +380,13 @@ public final class RootedFerryCallsTest {
         }
         due("text(0)", ferry.text(0), '1');
         due("text(1)", ferry.text(1), '0');
+        Checks.dueText(ferry, "MKD a/abcdef", 257, "/a/abcdef");
         dueLine(ferry, "PWD", 257);
         due("text(0) of PWD", ferry.text(0), '/');
-        due("text(1) of PWD", ferry.text(1), 0);
+        for (int i = 1; i < 12; i++) {
+            due("text() behind, where a longer one had something", ferry.text(i), 0);
+            due("text() below, where a longer one had something", ferry.text(-i), 0);
+        }
     }
 
     private static void textOfOtherReplies() {
